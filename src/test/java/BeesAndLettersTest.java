@@ -17,7 +17,8 @@ final class BeesAndLettersTest {
         newLetters();
         bribes();
         bribesInWrongStates();
-        bribeOfATiredBee();
+        bribesOnALane();
+        bribeWithoutHonour();
         wrongQuestions();
         targets();
         targetsWithoutWay();
@@ -152,6 +153,10 @@ final class BeesAndLettersTest {
         }
         town.pass(1);
         CHECKS.refused("swear on a lane", Checks.STATE, town, () -> town.swear(0, 0x12));
+        town.pass(1);
+        CHECKS.due("the last quarter on it", 1, () -> town.bee(0, 1));
+        CHECKS.refused("swear in the last quarter on it", Checks.STATE, town,
+                () -> town.swear(0, 0x12));
         CHECKS.refused("swear nothing on a lane", Checks.ARGUMENT, town,
                 () -> town.swear(0, 0x0));
         CHECKS.due("bee(0, 3) behind what was refused", 10, () -> town.bee(0, 3));
@@ -254,8 +259,27 @@ final class BeesAndLettersTest {
                 () -> Checks.bit(town.bribe(0, 4)));
     }
 
+    /** To a bee on a lane the house to which it is on its way is not the one where it is. */
+    private static void bribesOnALane() {
+        CourierBees town = rowTown();
+        town.addBee(0x12);
+        town.swear(0, 0x12);
+        town.swear(0, 0x12);
+        town.write(0, 4);
+        town.write(1, 4);
+        for (int left = 2; left > 0; left--) {
+            town.pass(1);
+            long due = left;
+            CHECKS.due("bee(0, 1) on the lane", due, () -> town.bee(0, 1));
+            CHECKS.refused("bribe on a lane, for behind it", Checks.STATE, town,
+                    () -> Checks.bit(town.bribe(0, 0)));
+            CHECKS.refused("bribe on a lane, for ahead of it", Checks.STATE, town,
+                    () -> Checks.bit(town.bribe(0, 1)));
+        }
+    }
+
     /** Honour ends at 0; a bribe for a letter that had best stay has it laid down again. */
-    private static void bribeOfATiredBee() {
+    private static void bribeWithoutHonour() {
         CourierBees town = rowTown();
         town.addBee(0x12);
         for (int i = 0; i < 4; i++) {
