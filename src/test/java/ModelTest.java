@@ -1,10 +1,15 @@
 /**
  * Long runs of calls, by fixed seeds, on the class and on the plain model of the document: each
- * call answers or throws the same, and the digests behind it are the same.
+ * call answers or throws the same, and the digests and means behind it are the same.
  */
 final class ModelTest {
-    private static final int RUNS = 160;
-    private static final int CALLS = 250;
+    private static final int RUNS = 400;
+    /** What an object answers behind these is free. */
+    private static final int CALLS = 512;
+    /** All ways, targets, trusted bees and letters of the largest town. */
+    private static final int LAST_CALLS = 14 * 14 + 14 * 6 + 14 + 20;
+    /** What a step between two digests may take: three oaths, a bribe, a digest and a mean. */
+    private static final int STEP_CALLS = 6;
     /** Numbers that are wrong nearly everywhere, or just right. */
     private static final int[] EDGES = {-1, 0, 1, 2, 3, 5, 6, 7, 8, 9, 13, 14, 19, 20, 23, 24, 25,
         120, 121, 240, 241, Integer.MIN_VALUE, Integer.MAX_VALUE};
@@ -14,6 +19,7 @@ final class ModelTest {
     private final PlainModel model = new PlainModel();
     private final int run;
     private final boolean[][] joined = new boolean[14][14];
+    private int asked;
     private long seed;
 
     private ModelTest(int run, Checks checks) {
@@ -45,8 +51,14 @@ final class ModelTest {
     }
 
     private void same(String what, Checks.Call due, Checks.Call call) {
+        asked++;
         checks.due("run " + run + ": " + what, Checks.outcome(due), call);
-        checks.due("run " + run + ": digest() behind " + what, model.digest(), town::digest);
+    }
+
+    private void sameState() {
+        same("digest()", model::digest, town::digest);
+        asked++;
+        checks.dueMean("run " + run + ": mean()", model.mean(), town.mean());
     }
 
     private void calls() {
@@ -72,10 +84,16 @@ final class ModelTest {
             int route = route(below(houses));
             same("addBee(" + route + ")", () -> model.addBee(route), () -> town.addBee(route));
         }
-        for (int i = 0; i < CALLS; i++) {
+        boolean inTheEnd = run % 4 == 0;
+        int last = CALLS - STEP_CALLS - (inTheEnd ? LAST_CALLS : 0);
+        while (asked <= last) {
             call();
+            sameState();
         }
-        everything();
+        if (inTheEnd) {
+            everything();
+        }
+        checks.same("run " + run + ": at most 512 calls", "true", String.valueOf(asked <= CALLS));
     }
 
     private void lane(int a, int b, int length) {
@@ -135,7 +153,8 @@ final class ModelTest {
             case 2: case 3: write(number(houses), number(houses)); break;
             case 4: oath(number(bees)); break;
             case 5: case 6: bribe(number(bees), number(letters)); break;
-            case 7: case 8: case 9: case 10: case 11: case 12: pass(oneOf(9) ? number(241) : 1 + below(6));
+            case 7: case 8: case 9: case 10: case 11: case 12:
+                pass(oneOf(9) ? number(241) : 1 + below(6));
                 break;
             case 13: comes(number(letters)); break;
             case 14: advise(oneOf(5) ? number(121) : 1 + below(40)); break;
@@ -145,7 +164,6 @@ final class ModelTest {
             case 18: distance(number(houses), number(houses)); break;
             default: rare(); break;
         }
-        checks.dueMean("run " + run + ": mean()", model.mean(), town.mean());
     }
 
     private void rare() {
